@@ -11,6 +11,10 @@ public final class ObjectiveTest {
         Check.same("maximum with a dummy column", Tables.idle().maximum(), 10);
         Check.same("maximum, none allowed", Tables.barred(3).maximum(), -1);
         Check.same("maximum of zeros", new ChoreAssignment().maximum(), 0);
+        ChoreAssignment idle = Tables.idle();
+        idle.setForbidden(2, 1, true);
+        idle.setForbidden(2, 0, true);
+        Check.same("maximum, the last row idle", idle.maximum(), 10);
         x.resize(7, 7);
         for (int row = 0; row < 7; row++) {
             x.setRow(row, 99999999999999L);
@@ -37,6 +41,26 @@ public final class ObjectiveTest {
         Check.same("the minimum's", other.minimum(), 10);
     }
 
+    /** What a larger table leaves behind must not show in a smaller one. */
+    private static void promise31To34OfASmallerTable() {
+        for (int n = 1; n <= 6; n++) {
+            ChoreAssignment x = new ChoreAssignment();
+            x.resize(7, 7);
+            x.fill(31, 99);
+            x.maximum();
+            x.bottleneck();
+            x.countWithin(200);
+            x.resize(n, n);
+            Check.same("smaller countWithin of " + n, x.countWithin(0), x.startEnumeration());
+            Check.same("smaller maximum of " + n, x.maximum(), 0);
+            Check.same("smaller bottleneck of " + n, x.bottleneck(), 0);
+            Check.same("smaller minimum of " + n, x.minimum(), 0);
+            Check.same("smaller fits of " + n, x.fits(0), true);
+            x.setCost(n - 1, 0, 5);
+            Check.same("bottleneck after " + n, x.bottleneck(), n == 1 ? 5 : 0);
+        }
+    }
+
     private static void promise33Fits() {
         ChoreAssignment x = Tables.three();
         Check.same("fits 0", x.fits(0), false);
@@ -60,6 +84,10 @@ public final class ObjectiveTest {
             Check.same("countWithin " + limit, x.countWithin(limit), due[limit]);
         }
         Check.same("countWithin 7000", x.countWithin(7000), 6);
+        Check.same("countWithin at once", Tables.three().countWithin(5), 1);
+        Check.same("countWithin of none at once", Tables.three().countWithin(4), 0);
+        x.bottleneck();
+        Check.same("countWithin after the bottleneck", x.countWithin(6), 3);
         ChoreAssignment barred = Tables.barred(3);
         Check.same("countWithin 999, none allowed", barred.countWithin(999), 0);
         Check.same("countWithin 1999, none allowed", barred.countWithin(1999), 2);
@@ -101,6 +129,7 @@ public final class ObjectiveTest {
     public static void main(String[] args) {
         promise31Maximum();
         promise32Bottleneck();
+        promise31To34OfASmallerTable();
         promise33Fits();
         promise34CountWithin();
         promise35SumOf();

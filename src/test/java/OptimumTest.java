@@ -90,6 +90,9 @@ public final class OptimumTest {
         Check.same("rowPotential 2, idle", x.rowPotential(2), -3);
         Check.same("columnPotential of a dummy", x.columnPotential(2), -1);
         Check.same("reducedCost of a dummy", x.reducedCost(2, 2), 4);
+        // On objects that have found no potentials yet.
+        Check.same("columnPotential at once", Tables.three().columnPotential(1), -2);
+        Check.same("reducedCost at once", Tables.idle().reducedCost(2, 2), 4);
     }
 
     private static void promise24To26Refused(ChoreAssignment x) {
@@ -174,6 +177,15 @@ public final class OptimumTest {
         x.setCost(0, 0, 3);
         Check.same("secondBest of two optimal ones", x.secondBest(), 5);
         Check.same("secondBest of one", new ChoreAssignment().secondBest(), -1);
+        Check.same("secondBest with a dummy column", Tables.idle().secondBest(), 6);
+        ChoreAssignment lone = new ChoreAssignment();
+        lone.resize(2, 1);
+        lone.setCost(0, 0, 3);
+        Check.same("secondBest of one real column", lone.secondBest(), 3);
+        lone.resize(3, 1);
+        lone.setRow(0, 8L);
+        lone.setRow(1, 8L);
+        Check.same("secondBest changes rows 0 and 1 alone", lone.secondBest(), 0);
         ChoreAssignment barred = Tables.barred(2);
         Check.same("secondBest, none allowed", barred.secondBest(), 2000);
         barred.setForbidden(0, 0, false);

@@ -53,6 +53,9 @@ public final class SummaryTest {
         x.resize(1, 1);
         due = folded(1, 1, 0, 0, -1, 0, 0, 0, 2, 1, 9, 0, 1000, 0);
         Check.same("checksum of a smaller table", x.checksum(), due);
+        x.resize(2, 2);
+        due = folded(2, 2, 0, 0, -1, 0, 0, 0, 0, 0, 0, 1, 2, 1, 9, 0, 1000, 0);
+        Check.same("checksum with another m", x.checksum(), due);
     }
 
     private static void promise43IsSound() {

@@ -196,6 +196,16 @@ public final class TableTest {
         x.setForbidden(1, 1, true);
         Check.same("another row is forbidden", x.addToRow(2, 1), 10);
         Tables.cancels("addToRow 0", x, 5, () -> x.addToRow(0, 0));
+        x.resize(2, 2);
+        Check.same("addToRow 99", x.addToRow(1, 99), 198);
+        Check.same("addToRow -99", x.addToRow(1, -99), 0);
+        ChoreAssignment half = new ChoreAssignment();
+        half.resize(2, 2);
+        half.setRow(0, 5L);
+        half.addToRow(0, 94);
+        Check.same("addToRow up to 99", Tables.costs(half), "94 99 / 0 0");
+        Tables.refused("addToRow, the first fits", half, Tables.STATE, () -> half.addToRow(0, 5));
+        Check.same("nothing is added", Tables.costs(half), "94 99 / 0 0");
     }
 
     private static void promise8Refused() {
@@ -231,6 +241,12 @@ public final class TableTest {
         x.setForbidden(1, 1, true);
         Check.same("another column is forbidden", x.addToColumn(0, 2), 10);
         Tables.cancels("addToColumn 0", x, 10, () -> x.addToColumn(0, 0));
+        x.resize(3, 1);
+        Check.same("addToColumn 99", x.addToColumn(0, 99), 297);
+        Check.same("addToColumn -99", x.addToColumn(0, -99), 0);
+        x.setCost(2, 0, 1);
+        Tables.refused("addToColumn, two fit", x, Tables.STATE, () -> x.addToColumn(0, 99));
+        Check.same("nothing is added", Tables.costs(x), "0 0 0 / 0 0 0 / 1 0 0");
     }
 
     private static void promise9Refused() {
@@ -281,6 +297,10 @@ public final class TableTest {
         x.setForbidden(1, 1, false);
         Check.same("number comes along", Tables.costs(x), "7 4 0 / 6 1 0 / 2 2 0");
         Tables.cancels("swapColumns with itself", x, 7, () -> x.swapColumns(1, 1));
+        x.setCost(2, 0, 3);
+        x.swapColumns(1, 0);
+        Check.same("the last row too", Tables.costs(x), "4 7 0 / 1 6 0 / 2 3 0");
+        x.swapColumns(0, 1);
         x.startEnumeration();
         Tables.refused("swapColumns dummy", x, Tables.INDEX, () -> x.swapColumns(2, 0));
         Tables.refused("swapColumns other dummy", x, Tables.INDEX, () -> x.swapColumns(0, 2));
