@@ -51,6 +51,7 @@ public final class ObjectiveTest {
             x.bottleneck();
             x.countWithin(200);
             x.resize(n, n);
+            Check.same("smaller bottleneck at once of " + n, x.bottleneck(), 0);
             Check.same("smaller countWithin of " + n, x.countWithin(0), x.startEnumeration());
             Check.same("smaller maximum of " + n, x.maximum(), 0);
             Check.same("smaller bottleneck of " + n, x.bottleneck(), 0);

@@ -150,8 +150,11 @@ public final class RandomRunsTest {
             Object got = call(OF_PROGRAM, program, parts[0], with);
             String what = "run " + number + " call " + step + ": " + parts[0];
             Check.same(what + Arrays.toString(with), got, due);
-            // The checksum after each call tells whether a call that throws changed anything.
-            Check.same(what + ", then checksum", program.checksum(), model.checksum());
+            // The checksum tells whether a call that throws changed anything; but it is not asked
+            // each time, as it might hide what one call leaves behind for the next.
+            if (number % 2 == 0 || below(10) == 0) {
+                Check.same(what + ", then checksum", program.checksum(), model.checksum());
+            }
         }
     }
 

@@ -365,6 +365,29 @@ public final class TableTest {
         Check.same("another n", x.distance(), -1);
     }
 
+    /** The last row and column of the largest table there is. */
+    private static void promise7To15OfSeven() {
+        ChoreAssignment x = new ChoreAssignment();
+        x.resize(7, 7);
+        x.save();
+        x.setCost(6, 6, 9);
+        x.setCost(6, 0, 4);
+        Check.same("addToRow of seven", x.addToRow(6, 1), 20);
+        Check.same("addToColumn of seven", x.addToColumn(6, 1), 17);
+        Check.same("swapRows of seven", x.swapRows(6, 0), 1);
+        Check.same("swapRows, the other", x.costAt(0, 6), 11);
+        Check.same("swapColumns of seven", x.swapColumns(6, 0), 5);
+        Check.same("swapColumns, the other", x.costAt(0, 0), 11);
+        Check.same("transpose of seven", x.transpose(), 7);
+        Check.same("the last cell of column 0", x.costAt(6, 0), 5);
+        Check.same("totalCost of seven", x.totalCost(), 27);
+        Check.same("distance of seven", x.distance(), 27);
+        Check.same("restore of seven", x.restore(), 7);
+        Check.same("distance, restored", x.distance(), 0);
+        x.setCost(6, 6, 3);
+        Check.same("distance of the last cell", x.distance(), 3);
+    }
+
     private static void promise16To19Counts() {
         ChoreAssignment x = Tables.idle();
         Check.same("rows", x.rows(), 3);
@@ -403,6 +426,7 @@ public final class TableTest {
         promise12Transpose();
         promise13And14SaveAndRestore();
         promise15Distance();
+        promise7To15OfSeven();
         promise16To19Counts();
         Check.end();
     }
