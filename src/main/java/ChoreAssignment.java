@@ -18,7 +18,8 @@ public final class ChoreAssignment {
 
     private final Table table = new Table();
     private final Table saved = new Table();
-    // The three below are kept only to be used again: all calls of a run share one room.
+    // The solver and its rows of answers hold nothing from call to call; they are fields only to be
+    // used again, since all calls of a run share one room.
     private final Solver solver = new Solver();
     private final int[] rowPotentials = new int[MOST_ROWS];
     private final int[] columnPotentials = new int[MOST_ROWS];
