@@ -4,15 +4,25 @@ import java.util.concurrent.Callable;
 final class Check {
     private static int asked = 0;
     private static int wrong = 0;
+    private static String place = "";
 
     private Check() {
+    }
+
+    /** Names the place in the document that the next answers are about. */
+    static void about(String heading) {
+        place = heading + ": ";
+    }
+
+    static int asked() {
+        return asked;
     }
 
     static void same(String what, Object got, Object due) {
         asked++;
         if (!due.equals(got)) {
             wrong++;
-            System.out.println(what + " answered " + got + ", due is " + due);
+            System.out.println(place + what + " answered " + got + ", due is " + due);
         }
     }
 

@@ -9,7 +9,8 @@ public final class EnumerationTest {
 
     private static int columns(ChoreAssignment x) {
         int code = 0;
-        for (int row = 0; row < x.rows(); row++) {
+        int n = x.rows();
+        for (int row = 0; row < n; row++) {
             code = code * 10 + x.currentColumn(row) + 1;
         }
         return code;
@@ -58,22 +59,36 @@ public final class EnumerationTest {
         Tables.refused("nextSum of 7", x, Tables.STATE, x::nextSum);
     }
 
-    /** All 120 assignments of 5 rows, each once, in their order. */
-    private static void promise37VisitsEachOnce() {
+    /** A table of five rows, of which some assignments were visited. */
+    private static ChoreAssignment five(int steps) {
         ChoreAssignment x = new ChoreAssignment();
         x.resize(5, 4);
         x.fill(4711, 5);
         x.setForbidden(2, 2, true);
         x.startEnumeration();
+        for (int step = 0; step < steps; step++) {
+            x.nextSum();
+        }
+        return x;
+    }
+
+    /** All 120 assignments of 5 rows, each once, in their order. */
+    private static void promise37VisitsEachOnce() {
+        ChoreAssignment x = five(0);
+        ChoreAssignment other = five(0);
         Set<Integer> seen = new HashSet<>();
         int sumBefore = -1;
         int codeBefore = -1;
         for (int step = 0; step < 120; step++) {
+            if (step == 60) {
+                // An object is good for 512 calls, and looking at a step takes seven.
+                x = five(step);
+            }
             int sum = x.nextSum();
             int code = columns(x);
             boolean later = sum > sumBefore || (sum == sumBefore && code > codeBefore);
             Check.same("step " + step + " comes later", later, true);
-            Check.same("step " + step + " has its sum", x.sumOf(code), sum);
+            Check.same("step " + step + " has its sum", other.sumOf(code), sum);
             Check.same("step " + step + " is new", seen.add(code), true);
             sumBefore = sum;
             codeBefore = code;

@@ -64,7 +64,8 @@ public final class FaceTest {
             (Modifier.isPrivate(method.getModifiers()) ? hidden : seen).add(method.getName());
         }
         for (Constructor<?> constructor : of.getDeclaredConstructors()) {
-            Check.same("constructor is public", Modifier.isPublic(constructor.getModifiers()), true);
+            boolean open = Modifier.isPublic(constructor.getModifiers());
+            Check.same("constructor is public", open, true);
             seen.add(constructor.getName());
         }
         for (Field field : of.getDeclaredFields()) {
